@@ -152,6 +152,27 @@ public final class PromiseTests {
         due(y.find(3, 0), 1, "it is right again");
     }
 
+    private static void findRarely() {
+        PrimeProofs x = with("small 2;");
+        // 5 is the greatest prime above, though 2 to the 14 is more; 41 times 5 is not enough.
+        due(x.find(81919, 4), 4, "three rows by turns");
+        spelled(x, 1, "small 41;");
+        spelled(x, 2, "small 37;");
+        spelled(x, 3, "small 5;");
+        spelled(x, 4, "both 81919 with 1 9 down 41 1 2 37 1 2 up 5 1;");
+        due(x.needs(81919, 4), 21, "needs");
+        due(x.find(5, 4), 5, "Q 1");
+        spelled(x, 5, "both 5 with 1 1 down 2 2 2 up;");
+        PrimeProofs y = new PrimeProofs();
+        int found = y.find(177657479, 3);
+        due(found, 8, "no Q will do by P 1");
+        spelled(y, found, "lucas 177657479 with 2 37 by 2 3 3 2 5 1 7 1 11 1 13 1 17 1 29 1;");
+        due(y.find(712671959, 3), 10, "no Q will do by P 1");
+        due(y.line(10, 2), 2, "P");
+        due(y.line(10, 3), 19, "Q");
+        due(y.right(), 2047, "all are right");
+    }
+
     private static void findInAFullLedger() {
         PrimeProofs x = with("small 2;".repeat(50));
         due(read(x, "small 2;".repeat(8)), 8, "read");
@@ -186,7 +207,9 @@ public final class PromiseTests {
         due(x.back(MAX), NONE, "back(MAX)");
         due(x.back(MIN), NONE, "back(MIN)");
         due(x.count(3), 399, "nothing went");
-        due(x.back(19), 380, "back(19)");
+        due(x.back(18), 381, "back(18)");
+        due(x.feed(0, 0, 0, 0, 0), NONE, "feed up to 401");
+        due(x.back(1), 380, "back(1)");
         due(x.feed(0, 0, 0, 0, 0), 400, "feed up to 400");
         due(x.back(400), 0, "back(400)");
         // "smal", "l 7;", then blanks: the highest byte comes first.
@@ -329,7 +352,6 @@ public final class PromiseTests {
         faultOf("small 5;part 7 by 5 1 2;", 3);
         faultOf("small 3;part 7 by 3 30 2;", 3);
         faultOf("small 2;small 3;small 5;part 7 by 2 30 2 3 30 2 5 30 2;", 3);
-        // 25 is no less than 5 times 5, but 9 times 9 is.
         faultOf("small 2;part 17 by 2 2 3;", 4);
         faultOf("small 2;part 17 by 2 3 3;", 0);
         faultOf("small 2;part 9 by 2 1 8;", 4);
@@ -362,6 +384,9 @@ public final class PromiseTests {
         faultOf("small 3;both 7 with 1 3 down 3 1 2 up;", 0);
         faultOf("small 2;both 7 with 1 3 down up 2 3;", 0);
         faultOf("both 7 with 1 3 down up;", 4);
+        // 2 times 2 is less than 5, 2 times 3 is not.
+        faultOf("small 2;both 5 with 1 1 down 2 1 2 up;", 4);
+        faultOf("small 2;both 5 with 1 1 down 2 2 2 up;", 0);
         faultOf("small 2;both 7 with 1 3 down up 2 1;", 4);
         faultOf("small 2;both 7 with 1 3 down 2 1 6 up 2 1;", 4);
         faultOf("small 2;both 7 with 1 3 down 2 1 6 up 2 2;", 0);
@@ -453,6 +478,8 @@ public final class PromiseTests {
         due(x.alter(2, false, 0, 0, 2), 1_000_000_000, "q");
         due(x.alter(2, false, 0, 0, 1), NONE, "no q");
         due(x.alter(2, false, 0, 0, 1_000_000_001), NONE, "no q");
+        due(x.alter(2, false, 0, 1, 1), 1, "EXPONENT alike");
+        due(x.alter(2, false, 0, 2, 2), 2, "BASE alike");
         due(x.alter(2, false, 0, 1, 30), 1, "EXPONENT");
         due(x.alter(2, false, 0, 1, 31), NONE, "no EXPONENT");
         due(x.alter(2, false, 0, 1, 0), NONE, "no EXPONENT");
@@ -570,7 +597,7 @@ public final class PromiseTests {
     }
 
     private static void prune() {
-        PrimeProofs x = with("small 5;small 2;small 3;small 2;pratt 7 base 3 by 3 1 2 1;part 29 by 7 1 2;small 4;");
+        PrimeProofs x = with("part 9 by;small 2;small 3;small 2;pratt 7 base 3 by 3 1 2 1;part 29 by 7 1 2;small 4;");
         due(x.prune(6), -2, "not right");
         due(x.prune(7), NONE, "no such line");
         for (int wild : WILD) {
@@ -583,6 +610,13 @@ public final class PromiseTests {
         spelled(x, 2, "pratt 7 base 3 by 3 1 2 1;");
         spelled(x, 3, "part 29 by 7 1 2;");
         due(x.right(), 15, "all right");
+        for (int i = 0; i < 4; i++) {
+            due(x.line(i, 6), 0, "the FAULT of " + i);
+        }
+        due(x.rests(3), 15, "rests");
+        due(x.deep(2), 1, "deep");
+        due(x.deep(3), 2, "deep");
+        due(x.count(6), 9 + 8, "the cost");
         due(x.find(5, 0), 4, "one comes behind them");
         spelled(x, 4, "small 5;");
         due(x.prune(1), 1, "prune");
@@ -615,6 +649,12 @@ public final class PromiseTests {
         for (int what = 0; what < want.length; what++) {
             due(x.line(3, what), want[what], "line(3, " + what + ")");
         }
+        due(x.line(4, 4), 0, "DOWN ROWS of SMALL");
+        due(x.alter(3, true, 1, 0, 7), 7, "alter");
+        due(x.cut(3, true, 1), 1, "cut");
+        due(x.line(3, 4), 2, "DOWN ROWS");
+        due(x.line(3, 5), 1, "UP ROWS");
+        x = with("small 2;small 3;small 3;both 7 with 11 13 down 3 2 17 5 1 4 up 2 3 7 6;small 7;lucas 9 with 4 5 by;");
         due(x.line(5, 2), 4, "P");
         due(x.line(5, 3), 5, "Q");
         due(x.line(0, 1), 0, "SORT");
@@ -911,6 +951,9 @@ public final class PromiseTests {
         due(x.primes(MAX, MAX), NONE, "too great");
         due(x.primes(2047, 2047), 0, "2047 passes by 2");
         due(x.primes(25_326_001, 25_326_001), 0, "25326001 passes by 2, 3 and 5");
+        due(x.primes(2_284_453, 2_284_453), 0, "2284453 passes by 2, 3 and 7");
+        due(x.primes(746_331_041, 746_331_041), 0, "746331041 passes by 2, 5 and 7");
+        due(x.primes(1_024_651, 1_024_651), 0, "1024651 passes by 3, 5 and 7");
     }
 
     private static void smoothAndBound() {
@@ -932,8 +975,8 @@ public final class PromiseTests {
         due(x.bound(1009), 3, "144 is enough");
         due(x.bound(1439), 719, "719");
         due(x.bound(65537), 2, "65536");
-        // 16 is 4 times 4, which is not more.
-        due(x.bound(16), 5, "15");
+        due(x.bound(16), 5, "3 times 3 is less than 16");
+        due(x.bound(17), 2, "16");
         due(x.bound(999_999_937), 83, "a great prime");
         due(x.bound(1_000_000_000), 333_667, "a great number");
         due(x.bound(2), NONE, "2");
@@ -948,6 +991,9 @@ public final class PromiseTests {
         due(x.chase(2, 1), 2, "2");
         due(x.chase(4, 1), 4, "n itself");
         due(x.chase(999_999_937, 1), -2, "1 always");
+        due(x.chase(148_151, 1), 148_151, "the 999th time");
+        due(x.chase(212_243, 1), 212_243, "the 1000th time");
+        due(x.chase(132_851, 1), -2, "the 1001st time would be too late");
         due(x.chase(1_000_000_000, 99), 5, "1000000000");
         due(x.chase(15, 0), NONE, "c");
         due(x.chase(15, 100), NONE, "c");
@@ -1112,6 +1158,12 @@ public final class PromiseTests {
         due(x.count(4), 3, "the greatest");
         due(x.count(5), 0, "the deepest");
         due(x.count(6), 0, "the cost");
+        PrimeProofs y = with("both 7 with 1 1 down 3 1 2 up 2 3 5 1;");
+        due(y.count(2), 3, "rows of the first line");
+        due(y.count(4), 0, "none is right");
+        PrimeProofs z = with("small 97;");
+        due(z.count(4), 97, "the only one");
+        due(z.count(5), 0, "the deepest");
     }
 
     private static void all(String name, Runnable... tests) {
@@ -1123,7 +1175,8 @@ public final class PromiseTests {
 
     public static void main(String[] args) {
         all("1 A new object", PromiseTests::aNewObject);
-        all("2 find", PromiseTests::find, PromiseTests::findDeeply, PromiseTests::findInAFullLedger);
+        all("2 find", PromiseTests::find, PromiseTests::findDeeply, PromiseTests::findRarely,
+                PromiseTests::findInAFullLedger);
         all("3 feed, 4 back", PromiseTests::feedAndBack);
         all("5 read", PromiseTests::readLines, PromiseTests::readFaults, PromiseTests::readInAFullLedger);
         all("Terms", PromiseTests::faults, PromiseTests::faultsUpward, PromiseTests::faultsInOrder);
