@@ -966,6 +966,7 @@ public final class PromiseTests {
         due(x.smooth(999_999_937, 999_999_936), 1, "a prime");
         due(x.smooth(999_999_937, 999_999_937), 999_999_937, "a prime");
         due(x.smooth(360, MAX), 360, "all");
+        due(x.smooth(223092870, MAX), 223092870, "nine primes");
         due(x.smooth(360, -1), NONE, "below 0");
         due(x.smooth(1, 5), NONE, "no number");
         due(x.smooth(1_000_000_001, 5), NONE, "no number");
