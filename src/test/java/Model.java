@@ -393,6 +393,7 @@ final class Model {
     }
 
     private static final class Fault extends Exception {
+        private static final long serialVersionUID = 1L;
         final int at;
 
         Fault(int at) {

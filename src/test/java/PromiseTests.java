@@ -1,72 +1,6 @@
 /** For each promise of the document: ordinary inputs, the edges that it names, and wrong inputs. */
-public final class PromiseTests {
-    private static final int NONE = -1;
-    private static final int NOT = -2;
-    private static final int MAX = Integer.MAX_VALUE;
-    private static final int MIN = Integer.MIN_VALUE;
+public final class PromiseTests extends Tests {
     private static final int[] WILD = {MIN, -3, -2, -1, 60, 61, 1000, 1_000_000_001, MAX};
-
-    private static int wrong;
-    private static String promise;
-
-    private static void due(long got, long want, String what) {
-        if (got != want) {
-            wrong++;
-            System.out.println(promise + ": " + what + " answered " + got + ", due is " + want);
-        }
-    }
-
-    private static void spelled(PrimeProofs x, int line, String want) {
-        StringBuilder got = new StringBuilder();
-        for (int i = 0; i < x.spell(line, NONE); i++) {
-            got.append((char) x.spell(line, i));
-        }
-        if (!got.toString().equals(want)) {
-            wrong++;
-            System.out.println(promise + ": line " + line + " is \"" + got + "\", due is \"" + want + "\"");
-        }
-    }
-
-    private static void feed(PrimeProofs x, String text) {
-        int blanks = (20 - text.length() % 20) % 20;
-        String padded = text + " ".repeat(blanks);
-        for (int at = 0; at < padded.length(); at += 20) {
-            int[] v = new int[5];
-            for (int i = 0; i < 20; i++) {
-                v[i / 4] = v[i / 4] << 8 | padded.charAt(at + i);
-            }
-            x.feed(v[0], v[1], v[2], v[3], v[4]);
-        }
-        x.back(blanks);
-    }
-
-    private static int read(PrimeProofs x, String text) {
-        feed(x, text);
-        return x.read();
-    }
-
-    private static PrimeProofs with(String text) {
-        PrimeProofs x = new PrimeProofs();
-        int told = read(x, text);
-        if (told < 0) {
-            due(told, 0, "read() of " + text);
-        }
-        return x;
-    }
-
-    /** A text that can't be read, and the byte at which it can't. */
-    private static void fault(String text, int at) {
-        PrimeProofs x = with("small 2;");
-        due(read(x, text), -4 - at, "read() of \"" + text + "\"");
-        due(x.count(0), 1, "lines behind \"" + text + "\"");
-        due(x.count(3), 0, "the tape behind \"" + text + "\"");
-    }
-
-    private static void faultOf(String lines, int want) {
-        PrimeProofs x = with(lines);
-        due(x.line(x.count(0) - 1, 6), want, "the FAULT of the last of " + lines);
-    }
-
     private static final String TO31 =
             "small 2;small 3;small 5;small 7;small 11;small 13;small 17;small 19;small 23;small 29;small 31;";
 
@@ -1208,9 +1142,6 @@ public final class PromiseTests {
         all("39 u", PromiseTests::u);
         all("40 units", PromiseTests::units);
         all("41 count", PromiseTests::count);
-        System.out.println(wrong == 0 ? "all promises hold" : wrong + " answers are not as due");
-        if (wrong != 0) {
-            System.exit(1);
-        }
+        end("all promises hold");
     }
 }

@@ -25,10 +25,13 @@ public final class RulesTest {
         "int power(int,int,int)", "int order(int,int)", "int jacobi(int,int)", "int u(int,int,int,int)",
         "int units(int)", "int count(int)"};
     private static final String[] FORBIDDEN = {
-        "throw", "throws", "try", "catch", "finally", "synchronized", "assert", "import", "package", "record", "yield",
-        "protected", "volatile", "transient", "native", "strictfp", "var", "hashCode", "toString", "System.in",
-        "System.out", "while", "Object", "Exception", "addExact", "multiplyExact", "random", "nanoTime",
-        "currentTimeMillis", "Thread", "Integer", "Long.parse", "String.valueOf", "format"};
+        "throw", "throws", "try", "catch", "finally", "synchronized", "assert", "package", "yield", "protected", "volatile",
+        "transient", "native", "strictfp", "var", "hashCode", "System.in", "System.out", "Object", "Exception", "random",
+        "nanoTime", "currentTimeMillis", "Thread", "parseInt", "parseLong", "String.valueOf", "format"};
+    private static final Set<String> LIBRARY = Set.of("int", "long", "short", "byte", "char", "boolean", "double", "float",
+            "String", "StringBuilder", "Integer", "ArrayList");
+    private static final Set<String> IMPORTS = Set.of("ArrayList", "List", "Iterator", "Arrays");
+    private static final Set<String> ARRAY_FUNCTIONS = Set.of("copyOf", "copyOfRange", "fill");
 
     private static int wrong;
 
@@ -115,19 +118,35 @@ public final class RulesTest {
         must(!s.contains("->"), "2: a lambda");
         must(!s.contains("::"), "2: a method reference");
         must(!Pattern.compile("\"\\s*\\+|\\+\\s*\"").matcher(s).find(), "10: joined texts");
-        must(!Pattern.compile("for\\s*\\(\\s*;\\s*;").matcher(s).find(), "9: a loop without an end");
+        must(!Pattern.compile("for\\s*\\(\\s*;\\s*;|while\\s*\\(\\s*true").matcher(s).find(), "9: a loop without an end");
+        Set<String> own = new TreeSet<>(LIBRARY);
+        for (Class<?> c : PrimeProofs.class.getDeclaredClasses()) {
+            own.add(c.getSimpleName());
+        }
         Matcher made = Pattern.compile("new\\s+(\\w+)").matcher(s);
-        Set<String> allowed = Set.of("int", "long", "char", "Line", "Side", "Factors", "Ledger", "Finder", "Tape", "Reader", "Speller");
         while (made.find()) {
-            must(allowed.contains(made.group(1)), "4: new " + made.group(1));
+            must(own.contains(made.group(1)), "4: new " + made.group(1));
         }
-        Matcher called = Pattern.compile("\\b(Math|Long|System)\\.(\\w+)").matcher(s);
-        Set<String> functions = Set.of("min", "max", "abs", "floorMod", "bitCount", "arraycopy");
-        while (called.find()) {
-            must(functions.contains(called.group(2)), "4: " + called.group());
+        Matcher brought = Pattern.compile("import\\s+([\\w.*]+)").matcher(s);
+        while (brought.find()) {
+            must(IMPORTS.contains(brought.group(1).replace("java.util.", "")), "4: " + brought.group());
         }
+        library(s);
         for (int i = 0; i < s.length(); i++) {
             must(s.charAt(i) < 128, "a sign above 127");
+        }
+    }
+
+    private static void library(String s) {
+        Matcher called = Pattern.compile("\\b(Math|Long|Integer|System|Arrays)\\.(\\w+)").matcher(s);
+        while (called.find()) {
+            String function = called.group(2);
+            boolean known = switch (called.group(1)) {
+                case "System" -> function.equals("arraycopy");
+                case "Arrays" -> ARRAY_FUNCTIONS.contains(function);
+                default -> !function.endsWith("Exact");
+            };
+            must(known, "4: " + called.group());
         }
     }
 
