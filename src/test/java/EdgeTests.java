@@ -5,6 +5,7 @@ public final class EdgeTests {
     private static final int PROMISES = 41;
 
     public static void main(String[] args) {
+        Tests.endWithin(300);
         int[] testsOf = new int[PROMISES + 1];
         int run = 0;
         for (Class<? extends Tests> tests : List.of(EdgesOfTerms.class, EdgesOfComing.class, EdgesOfAltering.class,

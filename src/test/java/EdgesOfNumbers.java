@@ -2,6 +2,9 @@
 final class EdgesOfNumbers extends Tests {
     private static final int NINE_PRIMES = 223_092_870;
 
+    // No primes, though they pass by three of 2, 3, 5 and 7.
+    private static final int[] LIKE_PRIMES = {25_326_001, 2_284_453, 746_331_041, 1_024_651};
+
     private static PrimeProofs x() {
         return new PrimeProofs();
     }
@@ -116,7 +119,10 @@ final class EdgesOfNumbers extends Tests {
     @Says(promise = 27, words = "-2: n is no prime above 2")
     static void needsOfNoPrimeAbove2() {
         for (int sort = 1; sort <= 4; sort++) {
-            for (int n : new int[] {2, 4, 9, 91, 25_326_001, 999_999_999, MOST}) {
+            for (int n : new int[] {2, 4, 9, 91, 999_999_999, MOST}) {
+                due(x().needs(n, sort), NOT, "needs(" + n + ", " + sort + ")");
+            }
+            for (int n : LIKE_PRIMES) {
                 due(x().needs(n, sort), NOT, "needs(" + n + ", " + sort + ")");
             }
         }
@@ -153,7 +159,10 @@ final class EdgesOfNumbers extends Tests {
 
     @Says(promise = 28, words = "-2: n is no prime above 2")
     static void fewestOfNoPrimeAbove2() {
-        for (int n : new int[] {2, 4, 9, 91, 25_326_001, 999_999_999, MOST}) {
+        for (int n : new int[] {2, 4, 9, 91, 999_999_999, MOST}) {
+            due(x().fewest(n), NOT, "fewest(" + n + ")");
+        }
+        for (int n : LIKE_PRIMES) {
             due(x().fewest(n), NOT, "fewest(" + n + ")");
         }
     }
@@ -360,6 +369,15 @@ final class EdgesOfNumbers extends Tests {
         due(x().primes(0, -1), NONE, "primes(0, -1)");
         due(x().primes(-1, 5), NONE, "primes(-1, 5)");
         due(x().primes(-1, -1), NONE, "primes(-1, -1)");
+    }
+
+    @Says(promise = 33, words = "How many primes: those that pass by some are none")
+    static void whatLooksLikeAPrime() {
+        for (int n : LIKE_PRIMES) {
+            due(x().primes(n, n), 0, "primes(" + n + ", " + n + ")");
+            due(x().next(n - 1) > n ? 1 : 0, 1, "whether next(" + (n - 1) + ") is above");
+            due(x().prime(n, NONE) > 1 ? 1 : 0, 1, "whether " + n + " has more primes than one");
+        }
     }
 
     @Says(promise = 33, words = "(less than 1,000 above)")

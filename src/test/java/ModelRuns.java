@@ -403,6 +403,7 @@ public final class ModelRuns {
     }
 
     public static void main(String[] args) {
+        Tests.endWithin(300);
         int runs = args.length > 0 ? Integer.parseInt(args[0]) : RUNS;
         for (int run = 1; run <= runs; run++) {
             run(run);

@@ -1109,6 +1109,7 @@ public final class PromiseTests extends Tests {
     }
 
     public static void main(String[] args) {
+        endWithin(300);
         all("1 A new object", PromiseTests::aNewObject);
         all("2 find", PromiseTests::find, PromiseTests::findDeeply, PromiseTests::findRarely,
                 PromiseTests::findInAFullLedger);

@@ -165,6 +165,21 @@ abstract class Tests {
         }
     }
 
+    /** Ends all as wrong after some seconds: a call that does not end is no answer. */
+    static void endWithin(int seconds) {
+        Thread watch = new Thread(() -> {
+            try {
+                Thread.sleep(seconds * 1000L);
+            } catch (InterruptedException e) {
+                return;
+            }
+            System.out.println(promise + ": has not ended after " + seconds + " seconds");
+            Runtime.getRuntime().halt(1);
+        });
+        watch.setDaemon(true);
+        watch.start();
+    }
+
     static void end(String allIsWell) {
         System.out.println(wrong == 0 ? allIsWell : wrong + " answers are not as due");
         if (wrong != 0) {
